@@ -235,6 +235,10 @@ public final class PlainLearner {
             if (x == WILD || y == WILD) {
                 return WILD;
             }
+            // Every sum begins at 0: such steps need no gcd.
+            if (x == ZERO || y == ZERO) {
+                return x == ZERO ? y : x;
+            }
             // Reducing by the denominators' divisor first keeps all below 2^63 and the gcds short.
             long g = gcd(bottomOf(x), bottomOf(y));
             long left = bottomOf(x) / g;
@@ -250,6 +254,10 @@ public final class PlainLearner {
         static long times(long x, long y) {
             if (x == WILD || y == WILD) {
                 return WILD;
+            }
+            // Most steps' own slopes are 1.
+            if (x == ONE || y == ONE) {
+                return x == ONE ? y : x;
             }
             // Both are in least terms, so only what stands crosswise can be reduced.
             long g = gcd(topOf(x), bottomOf(y));

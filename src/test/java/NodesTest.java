@@ -153,6 +153,14 @@ public final class NodesTest {
             Check.due("act(op, 4, 5)", x.act(op, 4, 5), -1);
         }
         Check.due("act(0, 1, 2)", x.act(0, 1, 2), 6);
+        // Only the first, the middle or the last sides differ.
+        int[][] others = {{3, 2, 2}, {2, 3, 2}, {2, 2, 3}};
+        x.leaf(3, 2, 2, 2);
+        for (int[] s : others) {
+            int other = x.leaf(3, s[0], s[1], s[2]);
+            Check.due("act(0, 7, other)", x.act(0, 7, other), -1);
+            Check.due("act(0, other, 7)", x.act(0, other, 7), -1);
+        }
     }
 
     private static void matrices() {

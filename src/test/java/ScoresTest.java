@@ -7,6 +7,7 @@ public final class ScoresTest {
         ofNothing();
         ofOneKindOnly();
         mixed();
+        noComesFirst();
         extremes();
         allTold();
         sumsOfPlaces();
@@ -66,6 +67,17 @@ public final class ScoresTest {
         Check.score(x, 0, 2, 3);
         Check.score(x, 2, 6, 7);
         Check.score(x, 3, 11, 36);
+    }
+
+    private static void noComesFirst() {
+        PlainLearner x = new PlainLearner();
+        x.pair(4, false);
+        x.pair(9, true);
+        x.pair(2, true);
+        Check.score(x, 0, 1, 2);
+        Check.score(x, 1, 2, 3);
+        Check.score(x, 2, 4, 5);
+        Check.score(x, 3, 2, 3);
     }
 
     private static void extremes() {

@@ -125,6 +125,10 @@ public final class SlopesTest {
         for (int i = 0; i < 6; i++) {
             Check.slope(x, down, 0, i, wantDown[i], 1);
         }
+        int front = Check.row(x, 8, 8, 1);
+        int first = x.act(7, front, 0);
+        Check.slope(x, first, front, 0, 1, 1);
+        Check.slope(x, first, front, 1, 0, 1);
         // One that is WILD makes its row's GREATEST WILD, and the slopes of all of that row.
         x.tell(0, 1, 1, 0);
         for (int i = 0; i < 3; i++) {
@@ -146,12 +150,12 @@ public final class SlopesTest {
 
     private static void kinks() {
         PlainLearner x = new PlainLearner();
-        int row = Check.row(x, -2, 0, 5);
+        int row = Check.row(x, -2, 0, 5, 1, -1);
         int above = x.act(11, row, 0);
         int size = x.act(12, row, 0);
-        long[] wantAbove = {0, 0, 1};
-        long[] wantSize = {-1, 0, 1};
-        for (int i = 0; i < 3; i++) {
+        long[] wantAbove = {0, 0, 1, 1, 0};
+        long[] wantSize = {-1, 0, 1, 1, -1};
+        for (int i = 0; i < 5; i++) {
             Check.slope(x, above, row, i, wantAbove[i], 1);
             Check.slope(x, size, row, i, wantSize[i], 1);
         }

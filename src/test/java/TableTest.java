@@ -149,6 +149,10 @@ public final class TableTest {
         x.row(1, 4, 1, 1, 0);
         x.row(1, 3, 2, 2, 1);
         Check.due("best()", x.best(), 1);
+        x.clear();
+        x.row(1, 1, 1, 1, 0);
+        x.row(2, 2, 2, 2, 1);
+        Check.due("best()", x.best(), 0);
     }
 
     private static void clearing() {

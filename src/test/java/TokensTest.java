@@ -143,6 +143,12 @@ public final class TokensTest {
         Check.due("merge()", x.merge(), -2);
         Check.due("count(5)", x.count(5), 0);
         Check.due("count(4)", x.count(4), 8);
+        // What stood twice in an earlier text is not counted on.
+        Check.feed(x, "ab");
+        Check.due("merge()", x.merge(), 26);
+        x.empty();
+        Check.feed(x, "abc");
+        Check.due("merge()", x.merge(), -2);
     }
 
     private static void fullOfMerges() {
