@@ -3,6 +3,7 @@ final class Check {
     static final long BAD_FRACTION = -1099511627776L;
     private static int wrong = 0;
     private static int looked = 0;
+    private static String sentence = "";
 
     private Check() {
     }
@@ -11,8 +12,20 @@ final class Check {
         looked++;
         if (got != want) {
             wrong++;
-            System.out.println(call + " answered " + got + ", due is " + want);
+            System.out.println(sentence + call + " answered " + got + ", due is " + want);
         }
+    }
+
+    /** The test of one sentence of the document, whose words are printed ahead of what is not as due. */
+    static void sentence(String words, Runnable test) {
+        sentence = "\"" + words + "\": ";
+        int before = looked;
+        test.run();
+        if (looked == before) {
+            wrong++;
+            System.out.println(sentence + "nothing was looked at");
+        }
+        sentence = "";
     }
 
     /** A cell of a node. */
