@@ -117,7 +117,8 @@ public final class NodeBoundsTest {
 
     private static void cellsOfLeaves() {
         PlainLearner x = new PlainLearner();
-        int[][] taken = {{1, 64, 1, 1}, {2, 8, 8, 1}, {2, 1, 64, 1}, {2, 3, 21, 1}, {3, 4, 4, 4}, {3, 64, 1, 1}, {3, 7, 3, 3}};
+        int[][] taken = {{1, 64, 1, 1}, {2, 8, 8, 1}, {2, 1, 64, 1}, {2, 3, 21, 1}, {3, 4, 4, 4}, {3, 64, 1, 1},
+            {3, 7, 3, 3}};
         for (int k = 0; k < taken.length; k++) {
             int[] t = taken[k];
             Check.due("leaf(" + t[0] + ", " + t[1] + ", " + t[2] + ", " + t[3] + ")", x.leaf(t[0], t[1], t[2], t[3]), k);

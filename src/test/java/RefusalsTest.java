@@ -32,7 +32,7 @@ public final class RefusalsTest {
         Check.sentence("BAD (looked at first): ahead of FULL, feed", RefusalsTest::badAheadOfFullFeed);
         Check.sentence("BAD (looked at first): ahead of TURN, train", RefusalsTest::badAheadOfTurn);
         Check.sentence("NONE: no pair stands twice; else FULL", RefusalsTest::noneAheadOfFull);
-        Check.sentence("Nothing is promised beyond the answers and state changes: questions change nothing", RefusalsTest::questions);
+        Check.sentence("Nothing is promised beyond: questions change nothing", RefusalsTest::questions);
         Check.sentence("0 STEPS change nothing", RefusalsTest::noSteps);
         Check.end();
     }
@@ -82,10 +82,11 @@ public final class RefusalsTest {
     }
 
     private static void badLeaves() {
-        int[][] wrong = {{-1, 1, 1, 1}, {4, 1, 1, 1}, {MIN, 1, 1, 1}, {MAX, 1, 1, 1}, {1, 0, 1, 1}, {1, 65, 1, 1}, {2, 1, 0, 1},
-            {2, 1, 65, 1}, {3, 1, 1, 0}, {3, 1, 1, 65}, {3, MIN, MIN, MIN}, {3, MAX, MAX, MAX}};
+        int[][] wrong = {{-1, 1, 1, 1}, {4, 1, 1, 1}, {MIN, 1, 1, 1}, {MAX, 1, 1, 1}, {1, 0, 1, 1}, {1, 65, 1, 1},
+            {2, 1, 0, 1}, {2, 1, 65, 1}, {3, 1, 1, 0}, {3, 1, 1, 65}, {3, MIN, MIN, MIN}, {3, MAX, MAX, MAX}};
         for (int[] w : wrong) {
-            refused("leaf(" + w[0] + ", " + w[1] + ", " + w[2] + ", " + w[3] + ")", x -> x.leaf(w[0], w[1], w[2], w[3]), BAD);
+            String name = "leaf(" + w[0] + ", " + w[1] + ", " + w[2] + ", " + w[3] + ")";
+            refused(name, x -> x.leaf(w[0], w[1], w[2], w[3]), BAD);
         }
     }
 

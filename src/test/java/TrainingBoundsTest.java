@@ -5,6 +5,7 @@ public final class TrainingBoundsTest {
     public static void main(String[] args) {
         Check.sentence("PARAMETERS are LEAVES so marked", TrainingBoundsTest::onlyMarkedLeaves);
         Check.sentence("all PARAMETERS' SLOPES are reckoned; then each CELL becomes", TrainingBoundsTest::allAtOnce);
+        Check.sentence("SLOPES are reckoned, in each STEP of what the LEAVES are then", TrainingBoundsTest::reckonedAnew);
         Check.sentence("0 of those on which it does not hang", TrainingBoundsTest::notHanging);
         Check.sentence("also later ones", TrainingBoundsTest::laterOnes);
         Check.sentence("v - RATE * slope", TrainingBoundsTest::roomOfTheStep);
@@ -66,6 +67,24 @@ public final class TrainingBoundsTest {
         x.train(times, 1);
         Check.value(x, 0, 0, -2, 1);
         Check.value(x, 1, 0, 2, 1);
+    }
+
+    /** The slope of (w * w) * (w * w) hangs on an act's value: 4 at 1, then 1 / 2 at 1 / 2. */
+    private static void reckonedAnew() {
+        for (int asked = 0; asked < 2; asked++) {
+            PlainLearner x = single();
+            x.tell(0, 0, 1, 1);
+            int power = x.act(13, x.act(13, 0, 0), 0);
+            if (asked == 1) {
+                Check.value(x, power, 0, 1, 1);
+            }
+            x.rate(1, 8);
+            Check.due("train(2, 2)", x.train(power, 2), 0);
+            Check.value(x, 0, 0, 7, 16);
+            // 7 / 16 - 4 / 8 * (7 / 16)^3 = 7 / 16 - 343 / 8192, which is 1620.5 / 4096.
+            Check.due("train(2, 1)", x.train(power, 1), 0);
+            Check.value(x, 0, 0, 1621, 4096);
+        }
     }
 
     private static void notHanging() {
